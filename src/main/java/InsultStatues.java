@@ -387,7 +387,7 @@ public final class InsultStatues {
     // ---- what follows from things as they are now
 
     private int wrongedBy(int s) {
-        return told.insultedBy(s) | scene.claimed[s];
+        return told.insulted[s] | scene.claimed[s];
     }
 
     private int pullersAt(int s) {
@@ -598,6 +598,8 @@ public final class InsultStatues {
         final int[] strong = new int[MOST];
         final int[] credit = new int[MOST];
         final int[] wrongs = new int[MOST];
+        /** For each statue those whom its insult wrongs. */
+        final int[] insulted = new int[MOST];
 
         Town() {
             empty();
@@ -650,14 +652,16 @@ public final class InsultStatues {
             }
         }
 
-        int insultedBy(int s) {
-            int set = 0;
-            for (int p = 0; p < people; p++) {
-                if (has(wrongs[p], insult[s])) {
-                    set |= 1 << p;
+        /** When all are told: a statue may be told ahead of those whom it insults. */
+        void findInsulted() {
+            for (int s = 0; s < statues; s++) {
+                insulted[s] = 0;
+                for (int p = 0; p < people; p++) {
+                    if (has(wrongs[p], insult[s])) {
+                        insulted[s] |= 1 << p;
+                    }
                 }
             }
-            return set;
         }
 
         int strengthOf(int set) {
@@ -766,6 +770,7 @@ public final class InsultStatues {
     private static final class Reader {
         private static final int END = 0, ROW = 1, NUMBER = 2, STOP = 3, ODD = 4;
         private static final int FAULT_AT_0 = -10;
+        /** Stands for every number above 99, and for what is no number: it is beyond what any may be. */
         private static final int BEYOND = 100;
 
         int letters;
@@ -801,6 +806,7 @@ public final class InsultStatues {
             for (items = 0; items <= letters; items++) {
                 readToken();
                 if (token == END) {
+                    town.findInsulted();
                     return items;
                 }
                 if (!readItem()) {
@@ -888,7 +894,19 @@ public final class InsultStatues {
 
         private boolean readNumber(int least, int most) {
             readToken();
-            return token == NUMBER && number >= least && number <= most;
+            number = token == NUMBER ? numberOfToken() : BEYOND;
+            return number >= least && number <= most;
+        }
+
+        private int numberOfToken() {
+            if (text[place] == '0' && next - place > 1) {
+                return BEYOND;
+            }
+            int value = 0;
+            for (int i = place; i < next; i++) {
+                value = Math.min(value * 10 + text[i] - '0', BEYOND);
+            }
+            return value;
         }
 
         private boolean readInsults(int most) {
@@ -919,39 +937,24 @@ public final class InsultStatues {
             place = next;
             if (next >= letters) {
                 token = END;
-            } else if (isSmallLetter(text[next])) {
-                takeRow();
-            } else if (isDigit(text[next])) {
-                takeNumber();
-            } else {
-                token = text[next] == ';' ? STOP : ODD;
+                return;
+            }
+            token = kindOf(text[next]);
+            next++;
+            boolean grows = token == ROW || token == NUMBER;
+            while (grows && next < letters && kindOf(text[next]) == token) {
                 next++;
             }
         }
 
-        private void takeRow() {
-            token = ROW;
-            while (next < letters && isSmallLetter(text[next])) {
-                next++;
+        private static int kindOf(int letter) {
+            if (letter >= 'a' && letter <= 'z') {
+                return ROW;
             }
-        }
-
-        private void takeNumber() {
-            number = 0;
-            while (next < letters && isDigit(text[next])) {
-                number = Math.min(number * 10 + text[next] - '0', BEYOND);
-                next++;
+            if (letter >= '0' && letter <= '9') {
+                return NUMBER;
             }
-            boolean zeroAhead = text[place] == '0' && next - place > 1;
-            token = zeroAhead || number == BEYOND ? ODD : NUMBER;
-        }
-
-        private static boolean isSmallLetter(int letter) {
-            return letter >= 'a' && letter <= 'z';
-        }
-
-        private static boolean isDigit(int letter) {
-            return letter >= '0' && letter <= '9';
+            return letter == ';' ? STOP : ODD;
         }
     }
 }

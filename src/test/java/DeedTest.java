@@ -13,6 +13,7 @@ final class DeedTest {
         scarcePull();
         undoing();
         undoingEveryDeed();
+        peopleOfAnOldTown();
         tenAreKnown();
         refusedIsNotKnown();
         Expect.end("DeedTest");
@@ -67,6 +68,9 @@ final class DeedTest {
         Expect.due("now(1)", 2, x.now(1));
         Expect.due("now(3)", 2, x.now(3));
         x.pulls(1, 1);
+        x.comes(1);
+        Expect.due("several MOVE", 3, x.now(1));
+        x.undo();
         Expect.due("now(2)", 42, x.now(2));
         Expect.due("now(3)", 3, x.now(3));
         Expect.due("now(4)", BAD, x.now(4));
@@ -200,6 +204,20 @@ final class DeedTest {
         Expect.due("the later claim went", 6, x.statue(2, 3));
         Expect.due("believed", 1, x.one(3, 5));
         Expect.due("claims(3, 2) anew", 0, x.claims(3, 2));
+    }
+
+    /** Fewer people than before: those who were told earlier are no more. */
+    private static void peopleOfAnOldTown() {
+        InsultStatues x = Expect.told("t0 9 a;p0 9 3 a;p0 9 3 a;p0 9 3 a;");
+        for (int i = 0; i < 2; i++) {
+            Expect.type(x, "t0 9 a;p0 9 3 b;");
+            x.town();
+            Expect.due("WRONGED", 0, x.statue(0, 3));
+            Expect.due("OFFENDS", 0, x.statue(0, 5));
+            Expect.due("GATHER", InsultStatues.NONE, x.gather(1));
+            Expect.due("WHO", 1, x.who());
+            Expect.due("comes(1)", BAD, x.comes(1));
+        }
     }
 
     private static void tenAreKnown() {

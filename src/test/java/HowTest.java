@@ -126,6 +126,8 @@ final class HowTest {
         }
         due(x, 0, 120, 120, 120, 120, 120, 120);
         due(x, 1, 120, 120, 120, 120, 120, 120);
+        x.goes(5);
+        due(x, 0, 24, 24, 24, 24, 24, 0);
         InsultStatues alone = Expect.told("t0 1 a;p0 2 0 a;");
         due(alone, 0, 0);
         alone.comes(0);
@@ -148,6 +150,9 @@ final class HowTest {
         Expect.due("offends(0, -1)", BAD, x.offends(0, -1));
         Expect.due("offends(3, 0)", BAD, x.offends(3, 0));
         Expect.due("offends(-1, 0)", BAD, x.offends(-1, 0));
+        InsultStatues hated = Expect.told("n2;v3;t1 1 a;p0 1 0a;p0 1 0a;p0 1 0a;p1 1 0a;p1 1 0a;p1 1 0a;");
+        Expect.due("six are offended everywhere", 6, hated.statue(0, 5));
+        Expect.due("PLACE, the lowest", 0, hated.statue(0, 6));
         InsultStatues near = Expect.told("v0;t0 1 a;p1 1 0 a;p1 1 0 a;p0 1 0 a;");
         Expect.due("SIGHT 0", 2, near.offends(0, 1));
         Expect.due("SIGHT 0", 1, near.offends(0, 0));

@@ -10,6 +10,7 @@ final class TownTest {
         faultsOfRows();
         faultsOfLetters();
         textThatEndsTooEarly();
+        oldLettersDoNotCount();
         faultChangesNothing();
         readAnew();
         counts();
@@ -90,6 +91,8 @@ final class TownTest {
         fault("x1;", 0);
         fault("nn2;", 0);
         fault("tt", 0);
+        fault("tz 1 1 a;", 0);
+        fault("t0 1 a;az", 7);
         fault("  a", 2);
         fault("n2;;", 3);
         fault("n2;n2;", 3);
@@ -185,6 +188,21 @@ final class TownTest {
         fault("v", 1);
         fault("v1", 2);
         fault("n2;v1;p0 1 0 a", 14);
+    }
+
+    private static void oldLettersDoNotCount() {
+        String[] texts = {"n", "n2", "t0 1", "t0 1 a", "p0 1 0", "p0 1 0 a", "p0 1 0 abc", "v1", "t0 1 a;", "n3;"};
+        String[] old = {"z", "0", "9", ";", " ", "a", "!"};
+        for (String text : texts) {
+            for (String letter : old) {
+                InsultStatues x = new InsultStatues();
+                Expect.type(x, letter.repeat(20));
+                x.clear();
+                Expect.type(x, text);
+                int want = text.endsWith(";") ? 1 : -10 - text.length();
+                Expect.due("town() of '" + text + "' behind " + letter, want, x.town());
+            }
+        }
     }
 
     private static void faultChangesNothing() {
