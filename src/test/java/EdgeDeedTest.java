@@ -37,6 +37,7 @@ final class EdgeDeedTest {
         undoneOneByOne();
         refusedIsNotUndone();
         othersAreNotUndone();
+        toTheLastCall();
         Expect.end("EdgeDeedTest");
     }
 
@@ -204,6 +205,8 @@ final class EdgeDeedTest {
         Run.told("t0 1a;t1 30a;p0 9 3b;p0 5 1a;").due("claims(0, 0)", 0).calls("comes(1)").due("claims(0, 1)", 5)
             .calls("comes(0)").due("statue(0, 4)", 14).due("statue(1, 4)", 14).calls("undo()", "undo()")
             .due("claims(0, 1)", 5).calls("undo()", "comes(0)").due("claims(0, 1)", 14).due("one(0, 3)", 2);
+        Run.told("t0 1a;p0 5 1b;p0 4 1b;").calls("comes(0)", "comes(1)").due("claims(1, 0)", 4).due("claims(0, 0)", 9)
+            .due("statue(0, 3)", 3).calls("undo()").due("statue(0, 3)", 2).due("statue(0, 4)", 4);
     }
 
     /** "if there is such a YARD": down from the first and up from the last, in rows of each length. */
@@ -320,6 +323,19 @@ final class EdgeDeedTest {
             .due("trace()", 100001).due("back(0)", 1).due("now(0)", 1);
         Run.told(TOWN).calls("comes(0)", "sees(0, 1)", "forget()", "type(110)", "clear()").due("now(3)", 1)
             .due("undo()", 0).due("count(4)", 0).due("count(5)", 0);
+    }
+
+    /** "An object is used for at most 512 calls": the last of them is answered like the first. */
+    private static void toTheLastCall() {
+        Run run = Run.told("n2;t0 1a;p0 1 0a;");
+        int calls = "n2;t0 1a;p0 1 0a;".length() + 1;
+        run.due("comes(0)", 1);
+        calls++;
+        for (int i = 0; calls < 511; i++) {
+            run.due("pulls(0, " + (1 - i % 2) + ")", 1 - i % 2);
+            calls++;
+        }
+        run.due("undo()", 9);
     }
 
     private EdgeDeedTest() {

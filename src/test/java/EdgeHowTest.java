@@ -297,7 +297,8 @@ final class EdgeHowTest {
         }
         int[][] one = {{1, 1}, {9, 10}, {4, 5}, {7, 10}, {3, 5}, {1, 2}, {2, 5}, {3, 10}, {1, 5}, {1, 10}, {0, 1}};
         for (int x = 0; x <= 10; x++) {
-            fraction(Run.told("t0 9a;p0 9 0a;p0 9 0b;p0 9 0a;").calls("comes(0)", "comes(1)"), 0, x, one[x][0], one[x][1]);
+            Run run = Run.told("t0 9a;p0 9 0a;p0 9 0b;p0 9 0a;").calls("comes(0)", "comes(1)");
+            fraction(run, 0, x, one[x][0], one[x][1]);
         }
     }
 

@@ -54,7 +54,8 @@ final class EdgeKindTest {
     /** -1, -2, -3 and -9 are RATES like others: THE TRACE goes on by them. */
     private static void ratesThatLookRefused() {
         Run run = Run.told("t0 8a;t1 7a;t2 6a;p0 9 0a;").calls("comes(0)");
-        run.due("rate(2, 0)", -1).due("rate(2, 1)", -2).due("rate(2, 2)", -3).due("rate(4, 1)", -1).due("trace()", 10404);
+        run.due("rate(2, 0)", -1).due("rate(2, 1)", -2).due("rate(2, 2)", -3).due("rate(4, 1)", -1)
+            .due("trace()", 10404);
         Run.told("t0 9a;p0 9 0a;p0 9 0a;").calls("comes(0)", "comes(1)").due("rate(2, 0)", -9).due("trace()", 101);
     }
 
@@ -140,6 +141,9 @@ final class EdgeKindTest {
                 .refused("claims(1, 1)", InsultStatues.FULL);
         }
         run.due("back(0)", 1).due("claims(1, 1)", 1);
+        Run.told("n3;t1 1a;p0 1 1a;p0 1 1b;").calls("comes(0)", "keep(0)", "pulls(0, 1)", "claims(1, 0)", "keep(1)")
+            .due("back(0)", 1).due("statue(0, 0)", 1).due("statue(0, 3)", 1).due("one(1, 5)", 0)
+            .due("back(1)", 1).due("statue(0, 0)", 2).due("statue(0, 3)", 3).due("one(1, 5)", 1);
     }
 
     /** "nothing else": neither what was SEEN, nor THE TEXT, nor THE TRACE, nor what keep() leaves to be UNDONE. */

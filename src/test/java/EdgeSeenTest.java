@@ -96,6 +96,7 @@ final class EdgeSeenTest {
     /** "of several the lowest" */
     private static void showLowest() {
         Run.told("t0 1f;t1 1f;t2 1f;p0 1 0a;p0 1 0a;").due("show()", 0);
+        Run.told("t0 1f;t1 1f;p0 1 0a;p0 1 0a;p0 1 0a;p0 1 0a;p0 1 0a;p0 1 0a;").due("show()", 0);
         Run.told("t0 1f;t1 1a;t2 1b;p0 1 0a;p0 1 0b;").due("show()", 1);
         Run.told("t0 1f;t1 1f;t2 1f;t3 1f;t4 1f;t5 1a;p0 1 0a;p0 1 0b;").due("show()", 5);
         Run.told("t5 1f;t4 1a;t3 1a;p0 1 0a;p0 1 0b;").due("show()", 1);

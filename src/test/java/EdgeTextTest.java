@@ -297,6 +297,17 @@ final class EdgeTextTest {
             .due("statue(1, 3)", 1).due("statue(2, 3)", 6).due("one(1, 5)", 0).due("one(0, 4)", 0)
             .due("count(4)", 0).due("who()", 7).due("count(5)", 0).due("trace()", 1).refused("undo()", STATE)
             .refused("back(0)", STATE).refused("back(1)", STATE);
+        fewerThanBefore();
+    }
+
+    /** "tells all anew": of those who were told before, nobody is left, however often it is read. */
+    private static void fewerThanBefore() {
+        Run run = Run.told("t0 1a;t1 1a;p0 1 0a;p0 1 0a;p0 1 0a;");
+        for (int i = 0; i < 3; i++) {
+            run.type("t0 1a;p0 1 0b;").due("town()", 2).due("statue(0, 3)", 0).due("statue(0, 5)", 0).due("who()", 1)
+                .due("now(2)", 62).due("gather(1)", InsultStatues.NONE).refused("one(1, 0)", BAD)
+                .refused("statue(1, 0)", BAD).refused("gather(2)", BAD);
+        }
     }
 
     /** "0 YARDS, 1 STATUES, 2 PEOPLE, 3 SIGHT, 4 SEEN, 5 letters of THE TEXT. BAD." */
