@@ -61,10 +61,15 @@ final class Run {
     /** The call is answered so, and nothing has changed by it. */
     Run refused(String call, long want) {
         Run with = again();
-        Run without = again();
         Expect.due(this + " " + call, want, with.call(call));
-        List<String> due = without.everything();
-        List<String> got = with.everything();
+        alike(call, again().everything(), with.everything());
+        Run askedMore = again().calls(call);
+        alike(call, again().whatFollows(), askedMore.whatFollows());
+        call(call);
+        return this;
+    }
+
+    private void alike(String call, List<String> due, List<String> got) {
         for (int i = 0; i < Math.min(due.size(), got.size()); i++) {
             if (!due.get(i).equals(got.get(i))) {
                 Expect.yes(this + " " + call + " changes nothing: " + got.get(i) + ", not " + due.get(i), false);
@@ -72,8 +77,6 @@ final class Run {
             }
         }
         Expect.due(this + " " + call + " leaves as much to ask", due.size(), got.size());
-        call(call);
-        return this;
     }
 
     /** # stands for a number from least to most: those beside them, and the farthest, are refused. */
@@ -115,7 +118,7 @@ final class Run {
         return new Run().calls(calls.toArray(new String[0]));
     }
 
-    /** All that can be asked, and then all that shows itself only by going back; the run is used up by it. */
+    /** All that is told and done, and then all that shows itself only by going back; the run is used up by it. */
     private List<String> everything() {
         List<String> all = new ArrayList<>();
         int statues = (int) Math.min(answer(all, "count(1)"), 6);
@@ -142,6 +145,25 @@ final class Run {
         answer(all, "town()");
         ask(all, "count(#)", 6);
         answer(all, "clear()");
+        return all;
+    }
+
+    /** All that follows from what is told and done: asked of a run of its own, for the sake of its 512 calls. */
+    private List<String> whatFollows() {
+        List<String> all = new ArrayList<>();
+        int yards = (int) Math.min(answer(all, "count(0)"), 10);
+        int statues = (int) Math.min(answer(all, "count(1)"), 6);
+        int people = (int) Math.min(answer(all, "count(2)"), 6);
+        ask(all, "gather(#)", 1 << statues);
+        ask(all, "bare(#, 0)", yards);
+        ask(all, "bare(#, 1)", yards);
+        for (int s = 0; s < statues; s++) {
+            ask(all, "scale(#, " + s + ")", people);
+            ask(all, "offends(" + s + ", #)", yards);
+            ask(all, "odds(" + s + ", 3, #)", 2);
+            ask(all, "rate(#, " + s + ")", 6);
+        }
+        answer(all, "trace()");
         return all;
     }
 
