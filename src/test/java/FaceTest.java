@@ -44,7 +44,7 @@ final class FaceTest {
 
     private static void methods() {
         Set<String> found = new TreeSet<>();
-        Set<String> names = FACE.stream().map(f -> f.replaceAll("^\\w+ |\\(.*", "")).collect(Collectors.toSet());
+        Set<String> names = faceNames();
         for (Method m : InsultStatues.class.getDeclaredMethods()) {
             if (Modifier.isPrivate(m.getModifiers())) {
                 Expect.yes("private " + m.getName() + " bears a name of its own", !names.contains(m.getName()));
@@ -61,6 +61,10 @@ final class FaceTest {
         Expect.due("its parameters", 0, made[0].getParameterCount());
         Expect.yes("the class is final", Modifier.isFinal(InsultStatues.class.getModifiers()));
         Expect.yes("the class is public", Modifier.isPublic(InsultStatues.class.getModifiers()));
+    }
+
+    private static Set<String> faceNames() {
+        return FACE.stream().map(f -> f.replaceAll("^\\w+ |\\(.*", "")).collect(Collectors.toSet());
     }
 
     private static String signature(Method m) {
@@ -103,6 +107,7 @@ final class FaceTest {
             checkFields(c);
             for (Method m : c.getDeclaredMethods()) {
                 Expect.yes(m + " takes seven at most", m.getParameterCount() <= 7);
+                Expect.yes(m + " bears a name of its own", !faceNames().contains(m.getName()));
             }
         }
     }
